@@ -89,20 +89,20 @@ public final class ExactlySaid {
     private Steps kept = new Steps();
     private Steps spare = new Steps();
 
-    private State present = new State();
-    private final State[] past = new State[MOST_CHANGES];
-    private int pastLength;
-    private final State[] future = new State[MOST_CHANGES];
-    private int futureLength;
+    /** The states that undo() and redo() can come to: the present one stands at now. */
+    private final State[] states = new State[MOST_CHANGES + 1];
+    private int now;
+    private int last;
 
     private final Reckoner reckoner = new Reckoner();
-    private final Reader reader = new Reader(reckoner, tape);
-    private final Machine machine = new Machine(reckoner);
+    private final Reader reader = new Reader();
+    private final Machine machine = new Machine();
 
     public ExactlySaid() {
         for (int i = 0; i < slots.length; i++) {
             slots[i] = answer;
         }
+        states[0] = new State();
     }
 
     // ---- The tape, lines
@@ -126,7 +126,7 @@ public final class ExactlySaid {
     }
 
     public int run() throws IllegalArgumentException, ArithmeticException {
-        errorAt = reader.read(tapeLength);
+        errorAt = reader.read(tape, tapeLength, reckoner);
         tapeLength = 0;
         if (errorAt != NONE) {
             throw new IllegalArgumentException();
@@ -140,7 +140,7 @@ public final class ExactlySaid {
             if (told == null) {
                 throw new ArithmeticException();
             }
-            change(new State(told, present.rows));
+            change(new State(told, present().rows));
         }
         if (value != null) {
             answer = value;
@@ -206,7 +206,7 @@ public final class ExactlySaid {
 
     /** Asks for the causes that are asked ahead of all steps, in their order. */
     private boolean isRefusedAhead() {
-        Book book = present.book;
+        Book book = present().book;
         int unknown = book.firstUnknown(reader.sum);
         if (unknown != NONE) {
             refuse(UNKNOWN, unknown);
@@ -265,7 +265,7 @@ public final class ExactlySaid {
             return false;
         }
         spare.length = 0;
-        int why = machine.work(reader.sum, present.book, spare);
+        int why = machine.work(reader.sum, present().book, spare, reckoner);
         if (why != 0) {
             refuse(why, machine.place);
         }
@@ -275,7 +275,7 @@ public final class ExactlySaid {
     /** Answers the book with what the line tells and all that uses it worked anew, or null if this is refused. */
     private Book bookWith(Fraction value) {
         Told told = new Told(reader.word, reader.parameterCount, reader.sum, value);
-        Book book = present.book.with(told);
+        Book book = present().book.with(told);
         int left = book.usersOf(book.find(told.word, value == null));
         for (int turn = 0; turn < MOST_NAMES && left != 0; turn++) {
             int user = book.firstReady(left);
@@ -283,7 +283,7 @@ public final class ExactlySaid {
             if (old == null) {
                 return null;
             }
-            if (machine.work(old.sum, book, null) != 0) {
+            if (machine.work(old.sum, book, null, reckoner) != 0) {
                 refuse(BEHIND, 0);
                 failedWord = old.word;
                 return null;
@@ -413,11 +413,11 @@ public final class ExactlySaid {
     // ---- Names and functions
 
     public int names() {
-        return present.book.names.length;
+        return present().book.names.length;
     }
 
     public int nameAt(int place) throws IndexOutOfBoundsException {
-        Told[] all = present.book.names;
+        Told[] all = present().book.names;
         if (place < 0 || place >= all.length) {
             throw new IndexOutOfBoundsException();
         }
@@ -425,7 +425,7 @@ public final class ExactlySaid {
     }
 
     public int takeName(int word) throws NoSuchElementException {
-        Told name = present.book.toldAt(present.book.find(word, false));
+        Told name = present().book.toldAt(present().book.find(word, false));
         if (name == null || name.value == null) {
             throw new NoSuchElementException();
         }
@@ -434,11 +434,11 @@ public final class ExactlySaid {
     }
 
     public int functions() {
-        return present.book.functions.length;
+        return present().book.functions.length;
     }
 
     public int parameters(int word) throws NoSuchElementException {
-        Told function = present.book.toldAt(present.book.find(word, true));
+        Told function = present().book.toldAt(present().book.find(word, true));
         if (function == null) {
             throw new NoSuchElementException();
         }
@@ -446,19 +446,19 @@ public final class ExactlySaid {
     }
 
     public boolean uses(int word, boolean isFunction, int other, boolean isOtherFunction) {
-        Book book = present.book;
+        Book book = present().book;
         int user = book.find(word, isFunction);
         int used = book.find(other, isOtherFunction);
         return user != NONE && used != NONE && book.isUsing(user, used);
     }
 
     public int users(int word, boolean isFunction) {
-        Book book = present.book;
+        Book book = present().book;
         return Integer.bitCount(book.usersOf(book.find(word, isFunction)));
     }
 
     public int drop(int word, boolean isFunction) throws NoSuchElementException, IllegalStateException {
-        Book book = present.book;
+        Book book = present().book;
         int node = book.find(word, isFunction);
         if (node == NONE) {
             throw new NoSuchElementException();
@@ -467,7 +467,7 @@ public final class ExactlySaid {
             throw new IllegalStateException();
         }
         Book left = book.without(node);
-        change(new State(left, present.rows));
+        change(new State(left, present().rows));
         return left.names.length + left.functions.length;
     }
 
@@ -577,12 +577,12 @@ public final class ExactlySaid {
         if (!isRow(row)) {
             throw new IllegalArgumentException();
         }
-        Row old = present.rows[row];
+        Row old = present().rows[row];
         if (old.values.length >= MOST_IN_ROW) {
             throw new IllegalStateException();
         }
         Row wider = old.with(answer, reckoner.countBelow(old, answer));
-        change(present.withRow(row, wider));
+        change(present().withRow(row, wider));
         return wider.values.length;
     }
 
@@ -590,13 +590,13 @@ public final class ExactlySaid {
         if (!isRow(row)) {
             throw new IllegalArgumentException();
         }
-        Row old = present.rows[row];
+        Row old = present().rows[row];
         int place = reckoner.countBelow(old, answer);
         if (old.countSame(place, answer) == 0) {
             throw new NoSuchElementException();
         }
         Row left = old.without(place);
-        change(present.withRow(row, left));
+        change(present().withRow(row, left));
         return left.values.length;
     }
 
@@ -604,8 +604,8 @@ public final class ExactlySaid {
         if (!isRow(row)) {
             throw new IllegalArgumentException();
         }
-        int length = present.rows[row].values.length;
-        change(present.withRow(row, new Row(0)));
+        int length = present().rows[row].values.length;
+        change(present().withRow(row, new Row(0)));
         return length;
     }
 
@@ -613,15 +613,15 @@ public final class ExactlySaid {
         if (!isRow(row)) {
             throw new IllegalArgumentException();
         }
-        int below = reckoner.countBelow(present.rows[row], answer);
-        return isSame ? present.rows[row].countSame(below, answer) : below;
+        int below = reckoner.countBelow(present().rows[row], answer);
+        return isSame ? present().rows[row].countSame(below, answer) : below;
     }
 
     public int takeLeast(int row, int place) throws IllegalArgumentException, IndexOutOfBoundsException {
         if (!isRow(row)) {
             throw new IllegalArgumentException();
         }
-        Fraction[] values = present.rows[row].values;
+        Fraction[] values = present().rows[row].values;
         if (place < 0 || place >= values.length) {
             throw new IndexOutOfBoundsException();
         }
@@ -633,7 +633,7 @@ public final class ExactlySaid {
         if (!isRow(row)) {
             throw new IllegalArgumentException();
         }
-        Row all = present.rows[row];
+        Row all = present().rows[row];
         int below = reckoner.countBelow(all, answer);
         int next = below + all.countSame(below, answer);
         if (next >= all.values.length) {
@@ -647,7 +647,7 @@ public final class ExactlySaid {
         if (!isRow(row) || what < 0 || what > 2) {
             throw new IllegalArgumentException();
         }
-        Fraction[] values = present.rows[row].values;
+        Fraction[] values = present().rows[row].values;
         if (what == 2 && values.length == 0) {
             throw new NoSuchElementException();
         }
@@ -658,56 +658,48 @@ public final class ExactlySaid {
         return takeCopy(all);
     }
 
-    private static boolean isRow(int row) {
-        return row >= 0 && row < ROWS;
+    private boolean isRow(int row) {
+        return row >= 0 && row < present().rows.length;
     }
 
     // ---- Undo
 
     public int undo() {
-        if (pastLength < 1 || futureLength >= future.length) {
+        if (now < 1) {
             return NONE;
         }
-        future[futureLength] = present;
-        futureLength++;
-        pastLength--;
-        present = past[pastLength];
-        past[pastLength] = null;
-        return pastLength;
+        now--;
+        return now;
     }
 
     public int redo() {
-        if (futureLength < 1 || pastLength >= past.length) {
+        if (now >= last) {
             return NONE;
         }
-        past[pastLength] = present;
-        pastLength++;
-        futureLength--;
-        present = future[futureLength];
-        future[futureLength] = null;
-        return futureLength;
+        now++;
+        return last - now;
+    }
+
+    private State present() {
+        return states[now];
     }
 
     private void change(State next) {
-        if (pastLength >= past.length) {
-            for (int i = 1; i < past.length; i++) {
-                past[i - 1] = past[i];
+        if (now + 1 >= states.length) {
+            for (int i = 1; i < states.length; i++) {
+                states[i - 1] = states[i];
             }
-            pastLength = past.length - 1;
+            now = states.length - 2;
         }
-        past[pastLength] = present;
-        pastLength++;
-        present = next;
-        for (int i = 0; i < future.length; i++) {
-            future[i] = null;
-        }
-        futureLength = 0;
+        now++;
+        last = now;
+        states[now] = next;
     }
 
     // ---- Figures and second ways
 
     public double meanDigits() {
-        Told[] all = present.book.names;
+        Told[] all = present().book.names;
         if (all.length == 0) {
             return 0.0;
         }
@@ -735,11 +727,11 @@ public final class ExactlySaid {
     }
 
     private int wrongNames() {
-        Book book = present.book;
+        Book book = present().book;
         int wrong = 0;
         for (int i = 0; i < book.names.length; i++) {
             Told name = book.names[i];
-            if (machine.work(name.sum, book, null) != 0 || name.value == null
+            if (machine.work(name.sum, book, null, reckoner) != 0 || name.value == null
                 || !machine.given.isSame(name.value)) {
                 wrong++;
             }
@@ -1829,10 +1821,9 @@ public final class ExactlySaid {
                 return;
             }
             if (gave[length] == null) {
-                gave[length] = new Fraction(value);
-            } else {
-                gave[length].setTo(value);
+                gave[length] = new Fraction();
             }
+            gave[length].setTo(value);
             kinds[length] = kind;
             length++;
         }
@@ -1844,7 +1835,6 @@ public final class ExactlySaid {
         private static final int MOST_WAITING = 1000;
         private static final int MOST_LEVELS = MOST_FUNCTIONS + 1;
 
-        private final Reckoner reckoner;
         private final Fraction[] stack = new Fraction[MOST_WAITING];
         private int top;
         private final Sum[] sums = new Sum[MOST_LEVELS];
@@ -1857,12 +1847,8 @@ public final class ExactlySaid {
         /** What was put on the stack last; behind work() the value of the sum. */
         private final Fraction given = new Fraction();
 
-        private Machine(Reckoner reckoner) {
-            this.reckoner = reckoner;
-        }
-
         /** Answers the cause if it is refused, else 0; what it gives is given. */
-        private int work(Sum sum, Book book, Steps noted) {
+        private int work(Sum sum, Book book, Steps noted, Reckoner reckoner) {
             top = 0;
             done = 0;
             level = 0;
@@ -1889,7 +1875,7 @@ public final class ExactlySaid {
                     } else {
                         why = objection(kind);
                         if (why == 0) {
-                            calculate(kind, stack[top - valuesOf(kind)], stack[top - 1]);
+                            calculate(kind, stack[top - valuesOf(kind)], stack[top - 1], reckoner);
                             why = given.fits() ? finish(kind, valuesOf(kind), noted) : GREAT;
                         }
                     }
@@ -1925,10 +1911,9 @@ public final class ExactlySaid {
                 return GREAT;
             }
             if (stack[top] == null) {
-                stack[top] = new Fraction(value);
-            } else {
-                stack[top].setTo(value);
+                stack[top] = new Fraction();
             }
+            stack[top].setTo(value);
             top++;
             given.setTo(value);
             return 0;
@@ -1989,7 +1974,7 @@ public final class ExactlySaid {
         }
 
         /** Works a step; one of one value is worked with a alone. */
-        private void calculate(int kind, Fraction a, Fraction b) {
+        private void calculate(int kind, Fraction a, Fraction b, Reckoner reckoner) {
             switch (kind) {
                 case PLUS: case MINUS:
                     reckoner.add(a, b, kind == MINUS, given);
@@ -2044,8 +2029,7 @@ public final class ExactlySaid {
         private static final int NUMBER_TOKEN = 2;
         private static final int NO_TOKEN = 3;
 
-        private final Reckoner reckoner;
-        private final int[] text;
+        private final int[] text = new int[MOST_BYTES];
         private int textLength;
 
         private final int[] tokens = new int[MOST_BYTES + 1];
@@ -2068,14 +2052,12 @@ public final class ExactlySaid {
         private int parameterCount;
         private Sum sum;
 
-        private Reader(Reckoner reckoner, int[] tape) {
-            this.reckoner = reckoner;
-            text = tape;
-        }
-
         /** Answers the error position, NONE without an error. */
-        private int read(int tapeLength) {
-            textLength = Math.min(tapeLength, text.length);
+        private int read(int[] tape, int tapeLength, Reckoner reckoner) {
+            textLength = Math.min(tapeLength, Math.min(tape.length, text.length));
+            for (int i = 0; i < textLength; i++) {
+                text[i] = tape[i];
+            }
             findTokens();
             length = 0;
             numberCount = 0;
@@ -2085,7 +2067,7 @@ public final class ExactlySaid {
                 return startAt(next);
             }
             sum = new Sum(Arrays.copyOf(kinds, length), Arrays.copyOf(operands, length),
-                Arrays.copyOf(places, length), Arrays.copyOf(counts, length), readNumbers());
+                Arrays.copyOf(places, length), Arrays.copyOf(counts, length), readNumbers(reckoner));
             return NONE;
         }
 
@@ -2195,17 +2177,17 @@ public final class ExactlySaid {
             return close + 1;
         }
 
-        private Fraction[] readNumbers() {
+        private Fraction[] readNumbers(Reckoner reckoner) {
             Fraction[] numbers = new Fraction[numberCount];
             for (int i = 0; i < length; i++) {
                 if (kinds[i] == NUMBER && operands[i] < numbers.length) {
-                    numbers[operands[i]] = numberFrom(places[i]);
+                    numbers[operands[i]] = numberFrom(places[i], reckoner);
                 }
             }
             return numbers;
         }
 
-        private Fraction numberFrom(int from) {
+        private Fraction numberFrom(int from, Reckoner reckoner) {
             long above = 0;
             long below = 1;
             int at = from;

@@ -8,6 +8,7 @@ public final class AllTests {
     public static void main(String[] args) throws Exception {
         Report report = new Report();
         FaceTests.runAll(report, Path.of(args[0]), Path.of(args[1]));
+        NatTests.runAll(report);
         PromiseTests.runAll(report);
         ModelTests.runAll(report, 1500, 1);
         report.close();
