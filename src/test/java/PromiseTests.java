@@ -32,6 +32,7 @@ final class PromiseTests {
         tests.ring();
         tests.zeroWholeGreat();
         tests.longLines();
+        tests.greatTexts();
         tests.placesInFunctions();
         tests.behind();
         tests.refusedChangesNothing();
@@ -381,8 +382,29 @@ final class PromiseTests {
         t.run("h(x)=f(f(x))+1");
         is("6 200 with functions", t.value("h(h(1))") + " " + t.x.steps(), "195 200");
         is("6 201 with functions", t.run("-h(h(1))"), "refused by 8 at 0");
+        t.run("k(x)=f(f(f(f(x))))+1-1+1-1");
+        is("6 the step of a function is the 201st", t.run(" k(1)"), "refused by 8 at 1");
+        t.run("k(x)=f(f(f(f(x))))+1-1+1");
+        is("6 the step of a function is the 200th", t.value("k(1)") + " " + t.x.steps(), "194 200");
         t.run("x=h(h(1))");
         is("6 names have steps of their own", t.value("x+x") + " " + t.x.steps(), "390 1");
+    }
+
+    private void greatTexts() {
+        Talk t = new Talk();
+        is("4 200 tokens", t.value("1" + "+1".repeat(99) + "!") + " " + t.x.steps(), "100 100");
+        is("4 199 steps of 200 signs", t.value("1" + "!".repeat(199)) + " " + t.x.steps(), "1 199");
+        is("5 at the 200th", t.run("1" + "!".repeat(198) + ")"), "error at 199");
+        is("5 behind the 200th", t.run("1" + "+1".repeat(99) + "+"), "error at 200");
+        t.run("a(x)=x+1");
+        for (char c = 'b'; c < 'k'; c++) {
+            char ahead = (char) (c - 1);
+            is("4 chain", t.run(c + "(x)=x-" + ahead + "(x)*2"), 2);
+        }
+        is("4 ten functions", t.value("j(1)") + " " + t.x.steps(), "-853 29");
+        is("6 place with ten functions", t.run("3*(j(10^29))"), "refused by 7 at 3");
+        t.run("a(x)=1/x");
+        is("6 place of what is met deep", t.run("3*(j(0))"), "refused by 5 at 3");
     }
 
     private void placesInFunctions() {
@@ -482,6 +504,10 @@ final class PromiseTests {
         is("13 stays", t.written().length(), 104);
         t.run("2^-99");
         is("13 99 ahead", t.x.write(true), 101);
+        t.run("1/60101");
+        is("13 100 repeat", t.x.write(true), 104);
+        t.run("1/60101/2");
+        is("13 100 repeat, one ahead", t.x.write(true), -1);
         t.run("1/" + GREATEST);
         is("13 thirty repeat", t.decimals(), "0.[" + "0".repeat(29) + "1]");
         t.run("-" + GREATEST + "/7");
@@ -635,6 +661,16 @@ final class PromiseTests {
         is("31 982", t.x.repeating(), 982);
         t.run("1/1019");
         is("31 1018", t.x.repeating(), -1);
+        t.run("1/(73*751)");
+        is("31 1000", t.x.repeating(), 1000);
+        t.run("1/(73*751*60101*27961*21401*5051)");
+        is("31 1000 of a great denominator", t.x.repeating(), 1000);
+        t.run("1/(239*21649*53)");
+        is("31 1001", t.x.repeating(), -1);
+        t.run("1/(239*4649*21649*513239*53)");
+        is("31 1001 of a great denominator", t.x.repeating(), -1);
+        t.run("1/(239*4649*21649*513239*11)");
+        is("31 154 of a great denominator", t.x.repeating(), 154);
         t.run("1/(2^3*5^5*7)");
         is("30 the greater one", t.x.ahead() + " " + t.x.repeating(), "5 6");
         t.run("1/(10^29-1)");
