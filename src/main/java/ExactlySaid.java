@@ -651,7 +651,7 @@ public final class ExactlySaid {
         if (what == 2 && values.length == 0) {
             throw new NoSuchElementException();
         }
-        Fraction all = what == 1 ? reckoner.productOf(values) : reckoner.sumOf(values, what == 2);
+        Fraction all = what == 2 ? reckoner.meanOf(values) : reckoner.totalOf(values, what == 1);
         if (!all.fits()) {
             throw new ArithmeticException();
         }
@@ -1034,7 +1034,7 @@ public final class ExactlySaid {
         private final Fraction turned = new Fraction();
         private final Fraction first = new Fraction();
         private final Fraction second = new Fraction();
-        /** What takeContinued(), takeBest() and takeUnit() ask for. */
+        /** What takeContinued(), takeBest() and takeUnit() ask for, and room for the sum of a mean. */
         private final Fraction found = new Fraction();
 
         /** into and remainder are two other numbers than b, into another one than a, remainder may be a. */
@@ -1289,41 +1289,32 @@ public final class ExactlySaid {
             return below;
         }
 
-        private Fraction sumOf(Fraction[] values, boolean isMean) {
+        private Fraction totalOf(Fraction[] values, boolean isProduct) {
             Fraction total = first;
             Fraction next = second;
-            total.num.setSmall(0);
+            total.num.setSmall(isProduct ? 1 : 0);
             total.den.setSmall(1);
-            total.sign = 0;
+            total.setSign(1);
             for (int i = 0; i < values.length; i++) {
-                add(total, values[i], false, next);
+                if (isProduct) {
+                    multiply(total, values[i], next);
+                } else {
+                    add(total, values[i], false, next);
+                }
                 Fraction old = total;
                 total = next;
                 next = old;
-            }
-            if (isMean && values.length > 0) {
-                turned.num.setSmall(1);
-                turned.den.setSmall(values.length);
-                turned.sign = 1;
-                multiply(total, turned, next);
-                return next;
             }
             return total;
         }
 
-        private Fraction productOf(Fraction[] values) {
-            Fraction total = first;
-            Fraction next = second;
-            total.num.setSmall(1);
-            total.den.setSmall(1);
-            total.sign = 1;
-            for (int i = 0; i < values.length; i++) {
-                multiply(total, values[i], next);
-                Fraction old = total;
-                total = next;
-                next = old;
-            }
-            return total;
+        private Fraction meanOf(Fraction[] values) {
+            found.setTo(totalOf(values, false));
+            turned.num.setSmall(1);
+            turned.den.setSmall(Math.max(values.length, 1));
+            turned.sign = 1;
+            multiply(found, turned, first);
+            return first;
         }
 
         /** Whether (a + b) - b is a, and (a * b) / b, if b is not 0. */
@@ -1405,16 +1396,20 @@ public final class ExactlySaid {
             return quotient.limb(0);
         }
 
-        /** Counts the numbers of the continued form, and finds the one at a place, if there is one. */
-        private int continuedForm(Fraction value, int place) {
-            round(value, FLOOR, found);
-            // what is left above the floor is the numerator of value % 1
+        /** Makes left the numerator of what is left of a value above its floor. */
+        private void setAboveFloor(Fraction value) {
             divide(value.num, value.den, partA, left);
             if (value.sign < 0 && !left.isZero()) {
                 right.setTo(value.den);
                 right.minus(left);
                 left.setTo(right);
             }
+        }
+
+        /** Counts the numbers of the continued form, and finds the one at a place, if there is one. */
+        private int continuedForm(Fraction value, int place) {
+            round(value, FLOOR, found);
+            setAboveFloor(value);
             right.setTo(value.den);
             Nat upper = right;
             Nat lower = left;
@@ -1436,12 +1431,7 @@ public final class ExactlySaid {
         /** Finds the best approximation; answers whether it is less than the value, the same or greater. */
         private int bestWithin(Fraction value, int bound) {
             round(value, FLOOR, found);
-            divide(value.num, value.den, partA, left);
-            if (value.sign < 0 && !left.isZero()) {
-                right.setTo(value.den);
-                right.minus(left);
-                left.setTo(right);
-            }
+            setAboveFloor(value);
             right.setTo(value.den);
             right.minus(left);
             // Between lowNum/lowDen and highNum/highDen the value's part above the floor lies; left and right are
