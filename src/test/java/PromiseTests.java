@@ -595,6 +595,9 @@ final class PromiseTests {
         is("23 backwards", t.x.uses(word("g"), true, word("y"), false), false);
         is("23 none such", t.x.uses(word("q"), false, word("x"), false), false);
         is("23 none such used", t.x.uses(word("z"), false, word("x"), true), false);
+        t.run("k=abs(1)");
+        is("23 known at first", t.x.uses(word("k"), false, word("abs"), true), false);
+        is("24 known at first", t.x.users(word("abs"), true), 0);
         is("24 by others", t.x.users(word("x"), false), 3);
         is("24 function", t.x.users(word("f"), true), 2);
         is("24 names alone", t.x.users(word("g"), true), 2);
