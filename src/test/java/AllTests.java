@@ -1,3 +1,4 @@
+import java.nio.file.Files;
 import java.nio.file.Path;
 
 /** Runs every test of the project: the document and the program's source are its arguments. */
@@ -10,10 +11,23 @@ public final class AllTests {
         FaceTests.runAll(report, Path.of(args[0]), Path.of(args[1]));
         NatTests.runAll(report);
         PromiseTests.runAll(report);
+        boundaries(report, new Sentences(Files.readString(Path.of(args[0]))));
         ModelTests.runAll(report, 1500, 1);
         report.close();
         if (report.failures() > 0) {
             System.exit(1);
+        }
+    }
+
+    /** Every sentence of the document must be quoted by one of these tests. */
+    private static void boundaries(Report report, Sentences sentences) {
+        TermBoundaries.runAll(report, sentences);
+        MoreTermBoundaries.runAll(report, sentences);
+        PromiseBoundaries.runAll(report, sentences);
+        MorePromiseBoundaries.runAll(report, sentences);
+        report.check("sections of the document", sentences.count(), 60);
+        for (String words : sentences.unquoted()) {
+            report.check("a sentence without a test: " + words, false, true);
         }
     }
 }
