@@ -10,6 +10,7 @@ public final class AllTests {
         Report report = new Report();
         FaceTests.runAll(report, Path.of(args[0]), Path.of(args[1]));
         NatTests.runAll(report);
+        LawTests.runAll(report);
         PromiseTests.runAll(report);
         boundaries(report, new Sentences(Files.readString(Path.of(args[0]))));
         ModelTests.runAll(report, 1500, 1);

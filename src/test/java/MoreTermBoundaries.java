@@ -48,6 +48,16 @@ final class MoreTermBoundaries extends Quoting {
         is("no longer", t.run("g(a)=a") + " " + t.x.uses(word("z"), false, word("y"), false), "2 false");
         is("though its value does not need it", t.run("w=0*x") + " " + t.x.uses(word("w"), false, word("x"), false),
             "1 true");
+        Talk u = new Talk();
+        u.run("b=1");
+        u.run("a=b");
+        u.run("c=a");
+        u.run("a(x)=c+x");
+        u.run("j(x)=a(x)");
+        u.run("k=j(1)");
+        is("by the first of all names", u.x.uses(word("c"), false, word("b"), false), true);
+        is("by names and functions", u.x.uses(word("k"), false, word("b"), false), true);
+        is("all of them", u.x.users(word("b"), false) + " " + u.x.users(word("a"), true), "3 1");
     }
 
     private void telling() {
@@ -81,6 +91,14 @@ final class MoreTermBoundaries extends Quoting {
         t.run("d=7");
         is("all that use it", t.run("x=10") + " " + namesOf(t), "1 1=13 29=12 2=11 3=130 4=7 24=10");
         is("by a function", t.run("f(q)=q-x") + " " + namesOf(t), "2 1=13 29=12 2=11 3=3 4=7 24=10");
+        Talk all = new Talk();
+        all.run("f(x)=1");
+        StringBuilder due = new StringBuilder("2");
+        for (int i = 1; i <= 20; i++) {
+            all.run((char) ('a' + i - 1) + "=f(" + i + ")");
+            due.append(' ').append(i).append('=').append(i);
+        }
+        is("20 names", all.run("f(x)=x") + " " + namesOf(all), due.toString());
         Talk u = new Talk();
         u.run("x=1");
         u.run("b=1/x");
@@ -190,6 +208,14 @@ final class MoreTermBoundaries extends Quoting {
         is("a function", t.run("z=f(2)") + " " + t.run("f(x)=e(x)") + " " + ringOf(t), "1 refused by 4 at 0 -6 -5 26");
         t.run("f=f(1)");
         is("a name and a function of one word", t.run("f(x)=f+x") + " " + ringOf(t), "refused by 4 at 0 -6 6");
+        Talk u = new Talk();
+        u.run("y=1");
+        u.run("z=y");
+        u.run("a=z");
+        is("by the first of all names", u.run("y=a") + " " + ringOf(u), "refused by 4 at 0 25 1 26");
+        is("by names that were worked anew", u.run("y=2") + " " + u.run("y=a") + " " + ringOf(u),
+            "1 refused by 4 at 0 25 1 26");
+        is("the first of all names", u.run("a=a") + " " + ringOf(u), "refused by 4 at 0 1");
     }
 
     private void longestRing() {

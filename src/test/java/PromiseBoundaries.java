@@ -237,6 +237,27 @@ final class PromiseBoundaries extends Quoting {
         is("above", t.run(GREATEST) + " " + t.x.sign(), "0 1");
         is("-0", t.run("-0") + " " + t.x.sign(), "0 0");
         is("0 times below", t.run("0*-3") + " " + t.x.sign(), "0 0");
+        String[] below = {"0-5", "-1/2+1/3", "-2*3", "2/-3", "7%-3", "(-2)^3", "(-2)^-3", "-3!", "floor(-1/2)", "ceil(-3/2)",
+            "near(-2/3)", "med(-1,0)", "num(-3/2)", "min(-1,1)", "max(-1,-2)"};
+        String[] zero = {"0.000", "1/3-1/3", "0/7", "6%-3", "0^5", "gcd(0,0)", "lcm(0,-3)", "floor(1/2)", "ceil(-1/2)",
+            "near(-1/2)", "abs(0)", "med(-1,1)", "num(0)", "min(0,1)", "max(-1,0)"};
+        String[] above = {"0.[1]", "1/2-1/3", "-2*-3", "-2/-3", "-7%3", "(-2)^2", "(-2)^-2", "0^0", "0!", "3!", "gcd(-4,6)",
+            "lcm(-4,6)", "floor(3/2)", "ceil(1/2)", "near(2/3)", "abs(-1/2)", "med(-1,2)", "num(3/2)", "den(-3/2)",
+            "den(0)", "min(2,1)", "max(-1,1)"};
+        String[][] all = {below, zero, above};
+        for (int i = 0; i < all.length; i++) {
+            for (String sum : all[i]) {
+                is(sum, t.run(sum) + " " + t.x.sign(), "0 " + (i - 1));
+            }
+        }
+        t.run("3/7");
+        t.x.keep(0);
+        is("of a best approximation", t.x.takeBest(2) + " " + t.x.sign(), "1 1");
+        t.x.take(0);
+        is("of a unit fraction", t.x.takeUnit(1) + " " + t.x.sign(), "2 1");
+        t.x.take(0);
+        is("of a number of a continued form", t.x.takeContinued(1) + " " + t.x.sign(), "1 1");
+        is("of the empty sum and product", t.x.takeAll(0, 0) + "" + t.x.sign() + t.x.takeAll(0, 1) + t.x.sign(), "0011");
     }
 
     private void digits() {

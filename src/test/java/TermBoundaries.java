@@ -417,6 +417,10 @@ final class TermBoundaries extends Quoting {
         is("200/2", t.value("1^(200/2)"), "1");
         is("a great one", t.run("1^(10^29)"), "refused by 6 at 1");
         is("a great one below 0", t.run("1^-999999999999"), "refused by 6 at 1");
+        for (int digits = 9; digits <= 27; digits += 9) {
+            is("10^" + digits + " and more", t.run("1^(10^" + digits + ")") + ", " + t.run("1^(10^" + digits + "+1)"),
+                "refused by 6 at 1, refused by 6 at 1");
+        }
         is("a small one", t.run("1^(10^-29)"), "refused by 6 at 1");
         is("99", t.value("2^99"), "633825300114114700748351602688");
         is("-99", t.value("2^-99"), "1/633825300114114700748351602688");
@@ -438,6 +442,10 @@ final class TermBoundaries extends Quoting {
         is("-1/2", t.run("(-1/2)!"), "refused by 6 at 6");
         is("great", t.run("(10^29)!"), "refused by 7 at 7");
         is("2 to the power of 32", t.run("4294967296!"), "refused by 7 at 10");
+        for (int digits = 9; digits <= 27; digits += 9) {
+            String sum = "(10^" + digits + "+3)!";
+            is("10^" + digits + " and 3", t.run(sum), "refused by 7 at " + (sum.length() - 1));
+        }
     }
 
     private void knownFunctions() {
