@@ -147,6 +147,7 @@ final class TermBoundaries extends Quoting {
         is("in ( )", t.value("(2^3)^2"), "64");
         is("a -", t.value("2^-2^2"), "1/16");
         is("two -", t.value("2^--1"), "2");
+        is("a - and a sign", t.run("(2^-)*1"), "error at 4");
         is("none behind", t.run("2^"), "error at 2");
         is("none ahead", t.run("^2"), "error at 0");
         is("a + behind", t.run("2^+1"), "error at 2");
@@ -168,6 +169,12 @@ final class TermBoundaries extends Quoting {
         is("no sum", t.run("abs()"), "error at 4");
         is("a comma at the end", t.run("gcd(4,)"), "error at 6");
         is("a comma at the beginning", t.run("gcd(,4)"), "error at 4");
+        is("a sign at the beginning", t.run("abs(+1)"), "error at 4");
+        is("a sign behind the comma", t.run("gcd(4,*2)"), "error at 6");
+        is("no sum in ( )", t.run("(abs())"), "error at 5");
+        is("no sum in a call", t.run("gcd(abs(),1)"), "error at 8");
+        is("a ! in ( )", t.run("(!)"), "error at 1");
+        is("a sign at the beginning of ( )", t.run("(+1)"), "error at 1");
         is("no comma", t.run("gcd(4 6)"), "error at 6");
         is("no ) of a call", t.run("gcd(4,6"), "error at 7");
         is("( )", t.value("((3))"), "3");
