@@ -1,7 +1,7 @@
 import java.nio.file.Files;
 import java.nio.file.Path;
 
-/** Runs every test of the project: the document and the program's source are its arguments. */
+/** Runs every test of the project: the document, the program's source and README.md are its arguments. */
 public final class AllTests {
     private AllTests() {
     }
@@ -9,6 +9,7 @@ public final class AllTests {
     public static void main(String[] args) throws Exception {
         Report report = new Report();
         FaceTests.runAll(report, Path.of(args[0]), Path.of(args[1]));
+        ReadmeTests.runAll(report, Path.of(args[2]));
         NatTests.runAll(report);
         LawTests.runAll(report);
         PromiseTests.runAll(report);
